@@ -342,6 +342,9 @@ public final class RoadTrace {
         }
 
         boolean areInOneRow(int one, int other) {
+            if (!hasCrossing(one) || !hasCrossing(other)) {
+                return false;
+            }
             return xs[one] == xs[other] || ys[one] == ys[other];
         }
 
@@ -372,7 +375,7 @@ public final class RoadTrace {
         }
 
         void addRoad(int first, int last, int kind) {
-            if (roads >= MOST_ROADS) {
+            if (roads >= MOST_ROADS || !hasCrossing(first) || !hasCrossing(last)) {
                 return;
             }
             int length = Math.abs(xs[first] - xs[last]) + Math.abs(ys[first] - ys[last]);
@@ -455,6 +458,9 @@ public final class RoadTrace {
         }
 
         int wayLength(int from, int to) {
+            if (!hasSpot(from) || !hasSpot(to)) {
+                return NONE;
+            }
             int length = NONE;
             for (int out = ALONG; out <= LAST_TO_LAST; out++) {
                 int other = lengthOut(from, to, out);
@@ -476,10 +482,8 @@ public final class RoadTrace {
             return NONE;
         }
 
+        /** Both spots have been looked at before. */
         private int lengthOut(int from, int to, int out) {
-            if (!hasSpot(from) || !hasSpot(to)) {
-                return NONE;
-            }
             if (out == ALONG) {
                 return lengthAlong(from, to);
             }

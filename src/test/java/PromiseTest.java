@@ -35,6 +35,7 @@ public final class PromiseTest {
         promise15WaysOut();
         promise15LeastCrossing();
         promise16Total();
+        promise16AllFull();
         promise17Image();
         promise18Restore();
         promise19Told();
@@ -102,6 +103,7 @@ public final class PromiseTest {
         due("2: the same x", x.crossing(0, 63), 3);
         due("2: the same y", x.crossing(63, 0), 4);
         due("2: one lies there", x.crossing(63, 63), NO);
+        due("2: the first one lies there", x.crossing(0, 0), NO);
         due("2: x too great", x.crossing(64, 0), OUTSIDE);
         due("2: y too great", x.crossing(0, 64), OUTSIDE);
         due("2: x too little", x.crossing(-1, 0), OUTSIDE);
@@ -390,6 +392,10 @@ public final class PromiseTest {
         same.rule(3, 99);
         same.fix(0, 2);
         same.fix(0, 6);
+        RoadTrace back = square();
+        back.fix(7, 2);
+        back.fix(2, 1);
+        due("10: straight on is the same from either side", back.candidate(1, 0, 2), 4);
         due("10: as little from both: the least road", same.candidate(1, 1, 3), 0);
         due("10: the cost of it", same.candidate(1, 1, 2), 32);
     }
@@ -694,6 +700,50 @@ public final class PromiseTest {
         for (int what = 0; what < of.length; what++) {
             due("16: one piece", y.total(what), of[what]);
         }
+    }
+
+    /** As many crossings, roads, fixes and candidates as there can be. */
+    private static void promise16AllFull() {
+        RoadTrace x = new RoadTrace();
+        for (int i = 0; i < 12; i++) {
+            x.crossing(i, 7);
+        }
+        for (int i = 1; i < 12; i++) {
+            x.road(0, i, 0);
+        }
+        for (int i = 2; i < 11; i++) {
+            x.road(1, i, 0);
+        }
+        x.rule(0, 8);
+        for (int i = 0; i < 16; i++) {
+            due("16: another fix", x.fix(5 + i % 2, 7), i + 1);
+            due("16: near all roads", x.candidate(i, -1, 0), 20);
+        }
+        due("16: the least road that has both places", x.best(0), 505);
+        due("16: at the last fix too", x.best(15), 506);
+        due("16: the last candidate of all", x.candidate(15, 19, 0), 1905);
+        due("16: no cost", x.total(0), 0);
+        due("16: one piece", x.total(1), 1);
+        due("16: no gap", x.total(2), 0);
+        due("16: to and fro", x.total(4), 15);
+        due("16: the image of it", x.image(1), 1);
+        due("16: all go", dropAll(x), 0);
+        for (int i = 0; i < 16; i++) {
+            x.fix(63, 63);
+        }
+        due("16: gaps alone", x.total(2), 16);
+        due("16: gaps cost nothing", x.total(0), 0);
+        due("16: gaps are not decided", x.total(3), 0);
+        due("16: back to the image", x.restore(1), 1);
+        due("16: as in the image", x.total(4), 15);
+    }
+
+    private static int dropAll(RoadTrace x) {
+        int left = 16;
+        for (int i = 0; i < 16; i++) {
+            left = x.drop();
+        }
+        return left;
     }
 
     private static void promise17Image() {
