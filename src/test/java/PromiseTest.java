@@ -734,6 +734,10 @@ public final class PromiseTest {
         due("16: gaps alone", x.total(2), 16);
         due("16: gaps cost nothing", x.total(0), 0);
         due("16: gaps are not decided", x.total(3), 0);
+        x.drop();
+        due("16: the last of all fixes begins a piece", x.fix(5, 7), 16);
+        due("16: with all candidates", x.candidate(15, 19, 2), 0);
+        due("16: the first piece", x.total(1), 1);
         due("16: back to the image", x.restore(1), 1);
         due("16: as in the image", x.total(4), 15);
     }
