@@ -2,8 +2,14 @@
 final class Check {
     private static int wrong = 0;
     private static int seen = 0;
+    private static String within = "";
 
     private Check() {
+    }
+
+    /** What is printed before each answer that is not as due. */
+    static void within(String test) {
+        within = test + ": ";
     }
 
     static void due(String what, long got, long want) {
@@ -11,7 +17,7 @@ final class Check {
         if (got != want) {
             wrong++;
             if (wrong <= 50) {
-                System.out.println(what + " answered " + got + ", due is " + want);
+                System.out.println(within + what + " answered " + got + ", due is " + want);
             }
         }
     }

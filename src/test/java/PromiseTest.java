@@ -46,32 +46,6 @@ public final class PromiseTest {
         Check.due(what, got, want);
     }
 
-    /** A square of four crossings, ten wide; the road from 3 up to 0 goes but one way. */
-    private static RoadTrace square() {
-        RoadTrace x = new RoadTrace();
-        x.crossing(0, 0);
-        x.crossing(10, 0);
-        x.crossing(10, 10);
-        x.crossing(0, 10);
-        x.road(0, 1, 0);
-        x.road(1, 2, 0);
-        x.road(2, 3, 0);
-        x.road(3, 0, 1);
-        return x;
-    }
-
-    /** Two roads side by side, twenty long and four apart, that no way joins. */
-    private static RoadTrace sideBySide() {
-        RoadTrace x = new RoadTrace();
-        x.crossing(0, 0);
-        x.crossing(20, 0);
-        x.crossing(0, 4);
-        x.crossing(20, 4);
-        x.road(0, 1, 0);
-        x.road(2, 3, 0);
-        return x;
-    }
-
     private static void theConstants() {
         due("NONE", RoadTrace.NONE, -6);
         due("UNKNOWN", RoadTrace.UNKNOWN, -1);
@@ -161,7 +135,7 @@ public final class PromiseTest {
     }
 
     private static void promise3Order() {
-        RoadTrace x = square();
+        RoadTrace x = Nets.square();
         due("3: UNKNOWN is before OUTSIDE", x.road(0, 4, 2), UNKNOWN);
         due("3: OUTSIDE is before NO", x.road(0, 0, 2), OUTSIDE);
         x.fix(60, 60);
@@ -239,7 +213,7 @@ public final class PromiseTest {
     }
 
     private static void promise6Between() {
-        RoadTrace x = square();
+        RoadTrace x = Nets.square();
         due("6: along both ways", x.between(1, 0), 10);
         due("6: on, one way", x.between(3, 0), 10);
         due("6: round, as it goes but one way", x.between(0, 3), 30);
@@ -266,7 +240,7 @@ public final class PromiseTest {
     }
 
     private static void promise7Way() {
-        RoadTrace x = square();
+        RoadTrace x = Nets.square();
         due("7: along one road", x.way(2, 7), 5);
         due("7: back along it", x.way(7, 2), 5);
         due("7: to itself", x.way(7, 7), 0);
@@ -288,7 +262,7 @@ public final class PromiseTest {
     }
 
     private static void promise7OneWay() {
-        RoadTrace x = square();
+        RoadTrace x = Nets.square();
         due("7: on, one way", x.way(302, 305), 3);
         due("7: all round", x.way(305, 302), 37);
         due("7: to itself, one way", x.way(305, 305), 0);
@@ -301,12 +275,12 @@ public final class PromiseTest {
         due("7: no way back", x.way(405, 401), NONE);
         due("7: no way to", x.way(0, 405), NONE);
         due("7: on and out", x.way(405, 1), 24);
-        RoadTrace apart = sideBySide();
+        RoadTrace apart = Nets.sideBySide();
         due("7: no way between", apart.way(5, 105), NONE);
     }
 
     private static void promise8Fix() {
-        RoadTrace x = square();
+        RoadTrace x = Nets.square();
         due("8: x too great", x.fix(64, 0), OUTSIDE);
         due("8: y too great", x.fix(0, 64), OUTSIDE);
         due("8: x too little", x.fix(-1, 0), OUTSIDE);
@@ -326,7 +300,7 @@ public final class PromiseTest {
     }
 
     private static void promise9Drop() {
-        RoadTrace x = sideBySide();
+        RoadTrace x = Nets.sideBySide();
         due("9: none", x.drop(), NO);
         x.fix(5, 2);
         x.fix(9, 1);
@@ -345,7 +319,7 @@ public final class PromiseTest {
     }
 
     private static void promise10Candidate() {
-        RoadTrace x = square();
+        RoadTrace x = Nets.square();
         x.fix(2, 1);
         x.fix(30, 30);
         due("10: how many", x.candidate(0, -1, 0), 2);
@@ -376,7 +350,7 @@ public final class PromiseTest {
     }
 
     private static void promise10Costs() {
-        RoadTrace x = square();
+        RoadTrace x = Nets.square();
         x.rule(1, 3);
         x.rule(2, 5);
         x.fix(2, 1);
@@ -388,11 +362,11 @@ public final class PromiseTest {
         due("10: back", x.candidate(1, 0, 3), 0);
         due("10: round the corner", x.candidate(1, 1, 0), 102);
         due("10: a way of 10 where 6 is straight on", x.candidate(1, 1, 2), 3 + 5 * 4 + 3 * 3);
-        RoadTrace same = square();
+        RoadTrace same = Nets.square();
         same.rule(3, 99);
         same.fix(0, 2);
         same.fix(0, 6);
-        RoadTrace back = square();
+        RoadTrace back = Nets.square();
         back.fix(7, 2);
         back.fix(2, 1);
         due("10: straight on is the same from either side", back.candidate(1, 0, 2), 4);
@@ -401,7 +375,7 @@ public final class PromiseTest {
     }
 
     private static void promise10Dead() {
-        RoadTrace x = square();
+        RoadTrace x = Nets.square();
         x.rule(3, 0);
         x.fix(0, 6);
         x.fix(0, 4);
@@ -412,7 +386,7 @@ public final class PromiseTest {
         due("10: not dead", x.candidate(1, 1, 2), 0);
         due("10: not dead, back", x.candidate(1, 1, 3), 1);
         due("10: best is not the dead one", x.best(1), 306);
-        RoadTrace apart = sideBySide();
+        RoadTrace apart = Nets.sideBySide();
         apart.rule(0, 3);
         apart.fix(5, 5);
         apart.fix(9, 2);
@@ -425,7 +399,7 @@ public final class PromiseTest {
     }
 
     private static void promise10ReachAndSlack() {
-        RoadTrace x = sideBySide();
+        RoadTrace x = Nets.sideBySide();
         x.fix(3, 8);
         due("10: just in reach", x.candidate(0, -1, 0), 1);
         x.drop();
@@ -441,7 +415,7 @@ public final class PromiseTest {
         due("10: reach 0, on the road", x.candidate(0, -1, 0), 1);
         x.fix(3, 1);
         due("10: reach 0, off the road", x.candidate(1, -1, 0), 0);
-        RoadTrace round = square();
+        RoadTrace round = Nets.square();
         round.rule(0, 0);
         round.rule(3, 32);
         round.fix(0, 2);
@@ -457,7 +431,7 @@ public final class PromiseTest {
     }
 
     private static void promise11Best() {
-        RoadTrace x = sideBySide();
+        RoadTrace x = Nets.sideBySide();
         x.fix(5, 2);
         due("11: of as little the least road", x.best(0), 5);
         x.fix(9, 2);
@@ -478,7 +452,7 @@ public final class PromiseTest {
     }
 
     private static void promise12Decided() {
-        RoadTrace x = sideBySide();
+        RoadTrace x = Nets.sideBySide();
         x.rule(0, 3);
         x.fix(5, 2);
         x.fix(9, 2);
@@ -507,7 +481,7 @@ public final class PromiseTest {
     }
 
     private static void promise12OtherPiece() {
-        RoadTrace x = sideBySide();
+        RoadTrace x = Nets.sideBySide();
         x.crossing(40, 40);
         x.crossing(50, 40);
         x.road(4, 5, 0);
@@ -521,7 +495,7 @@ public final class PromiseTest {
     }
 
     private static void promise13Piece() {
-        RoadTrace x = square();
+        RoadTrace x = Nets.square();
         x.rule(3, 0);
         x.fix(40, 40);
         due("13: a gap at first", x.piece(0), NONE);
@@ -546,7 +520,7 @@ public final class PromiseTest {
     }
 
     private static void promise14Step() {
-        RoadTrace x = square();
+        RoadTrace x = Nets.square();
         x.fix(2, 1);
         x.fix(7, 2);
         x.fix(40, 40);
@@ -560,7 +534,7 @@ public final class PromiseTest {
         for (int n : FAR_OFF) {
             due("14: far off", x.step(n), UNKNOWN);
         }
-        RoadTrace y = square();
+        RoadTrace y = Nets.square();
         y.rule(3, 0);
         y.fix(0, 2);
         y.fix(0, 6);
@@ -568,7 +542,7 @@ public final class PromiseTest {
     }
 
     private static void promise15Through() {
-        RoadTrace x = square();
+        RoadTrace x = Nets.square();
         x.rule(0, 0);
         x.rule(3, 99);
         x.fix(4, 0);
@@ -589,7 +563,7 @@ public final class PromiseTest {
             due("15: far off", x.through(3, n), NONE);
             due("15: far off", x.through(n, 0), UNKNOWN);
         }
-        RoadTrace round = square();
+        RoadTrace round = Nets.square();
         round.rule(0, 0);
         round.rule(3, 99);
         round.fix(0, 5);
@@ -669,7 +643,7 @@ public final class PromiseTest {
     }
 
     private static void promise16Total() {
-        RoadTrace x = square();
+        RoadTrace x = Nets.square();
         x.rule(3, 0);
         x.fix(40, 40);
         x.fix(1, 3);
@@ -686,13 +660,13 @@ public final class PromiseTest {
         for (int n : FAR_OFF) {
             due("16: far off", x.total(n), OUTSIDE);
         }
-        RoadTrace gaps = square();
+        RoadTrace gaps = Nets.square();
         gaps.fix(40, 40);
         int[] want = {0, 0, 1, 0, 0};
         for (int what = 0; what < want.length; what++) {
             due("16: with gaps alone", gaps.total(what), want[what]);
         }
-        RoadTrace y = square();
+        RoadTrace y = Nets.square();
         y.fix(2, 1);
         y.fix(7, 2);
         y.fix(10, 6);
@@ -704,16 +678,7 @@ public final class PromiseTest {
 
     /** As many crossings, roads, fixes and candidates as there can be. */
     private static void promise16AllFull() {
-        RoadTrace x = new RoadTrace();
-        for (int i = 0; i < 12; i++) {
-            x.crossing(i, 7);
-        }
-        for (int i = 1; i < 12; i++) {
-            x.road(0, i, 0);
-        }
-        for (int i = 2; i < 11; i++) {
-            x.road(1, i, 0);
-        }
+        RoadTrace x = Nets.fullRow();
         x.rule(0, 8);
         for (int i = 0; i < 16; i++) {
             due("16: another fix", x.fix(5 + i % 2, 7), i + 1);
@@ -727,7 +692,7 @@ public final class PromiseTest {
         due("16: no gap", x.total(2), 0);
         due("16: to and fro", x.total(4), 15);
         due("16: the image of it", x.image(1), 1);
-        due("16: all go", dropAll(x), 0);
+        due("16: all go", Nets.dropAll(x), 0);
         for (int i = 0; i < 16; i++) {
             x.fix(63, 63);
         }
@@ -742,16 +707,8 @@ public final class PromiseTest {
         due("16: as in the image", x.total(4), 15);
     }
 
-    private static int dropAll(RoadTrace x) {
-        int left = 16;
-        for (int i = 0; i < 16; i++) {
-            left = x.drop();
-        }
-        return left;
-    }
-
     private static void promise17Image() {
-        RoadTrace x = square();
+        RoadTrace x = Nets.square();
         due("17: image 0", x.image(0), 1);
         due("17: image 1", x.image(1), 1);
         due("17: image 0 again", x.image(0), 1);
@@ -773,7 +730,7 @@ public final class PromiseTest {
     }
 
     private static void promise18Restore() {
-        RoadTrace x = square();
+        RoadTrace x = Nets.square();
         due("18: it was not kept", x.restore(0), STATE);
         due("18: restore 2", x.restore(2), OUTSIDE);
         due("18: restore -1", x.restore(-1), OUTSIDE);
@@ -815,7 +772,7 @@ public final class PromiseTest {
     }
 
     private static void promise19Told() {
-        RoadTrace x = square();
+        RoadTrace x = Nets.square();
         x.crossing(63, 7);
         x.rule(0, 8);
         x.rule(1, 9);

@@ -71,48 +71,20 @@ public final class RobustTest {
 
     private static void refusedCallsChangeNothing() {
         RoadTrace x = fullNet(new Random(5));
-        String before = all(x);
+        String before = Seen.all(x);
         int[] refused = {x.crossing(40, 40), x.crossing(64, 0), x.road(0, 1, 0), x.road(0, 12, 0), x.road(0, 1, 2),
             x.rule(0, 3), x.rule(0, 9), x.fix(3, 3), x.fix(64, 0), x.image(2), x.restore(0), x.restore(2)};
         for (int answer : refused) {
             Check.isTrue("refused with " + answer, answer < 0);
         }
-        Check.isTrue("refused calls change nothing", before.equals(all(x)));
+        Check.isTrue("refused calls change nothing", before.equals(Seen.all(x)));
         x.image(1);
-        Check.isTrue("an image changes nothing", before.equals(all(x)));
+        Check.isTrue("an image changes nothing", before.equals(Seen.all(x)));
         x.drop();
         x.drop();
-        Check.isTrue("what is compared does change", !before.equals(all(x)));
+        Check.isTrue("what is compared does change", !before.equals(Seen.all(x)));
         x.restore(1);
-        Check.isTrue("all is restored", before.equals(all(x)));
-    }
-
-    /** All that can be asked of it. */
-    private static String all(RoadTrace x) {
-        StringBuilder text = new StringBuilder();
-        for (int what = 0; what < 320; what++) {
-            text.append(x.told(what)).append(' ');
-        }
-        for (int i = 0; i < 12; i++) {
-            for (int j = 0; j < 12; j++) {
-                text.append(x.between(i, j)).append(' ');
-                text.append(x.cell(i, j)).append(' ');
-            }
-        }
-        for (int fix = 0; fix < 17; fix++) {
-            text.append(x.best(fix)).append(' ').append(x.decided(fix)).append(' ');
-            text.append(x.piece(fix)).append(' ').append(x.step(fix)).append(' ');
-            for (int k = -1; k < 20; k++) {
-                text.append(x.through(fix, k)).append(' ');
-                for (int what = 0; what < 4; what++) {
-                    text.append(x.candidate(fix, k, what)).append(' ');
-                }
-            }
-        }
-        for (int what = 0; what < 5; what++) {
-            text.append(x.total(what)).append(' ');
-        }
-        return text.toString();
+        Check.isTrue("all is restored", before.equals(Seen.all(x)));
     }
 
     /** All calls of a run live in one room, so what is needed is made by the constructor alone. */
