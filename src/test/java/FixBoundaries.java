@@ -115,7 +115,8 @@ final class FixBoundaries {
     }
 
     /** Roads are found by cells; a road in reach of the fix may be in another cell than the fix. */
-    @Sentence(of = 0, says = "CANDIDATES of a FIX: for each ROAD, rising, the SPOT on it that is the least APART from the FIX, "
+    @Sentence(of = 0, says = "CANDIDATES of a FIX: for each ROAD, rising, the SPOT on it that is the least APART "
+        + "from the FIX, "
         + "if that is no more than REACH.")
     static void roadsOfOtherCellsAreNearToo() {
         int[][] roadsAndFixes = {{8, 8, 9, 8, 7, 7, 2}, {8, 8, 9, 8, 8, 0, 8}, {7, 7, 6, 7, 15, 7, 8},

@@ -147,6 +147,43 @@ final class KeptBoundaries {
         Check.isTrue("image 0 again", kept.equals(Seen.all(x)));
     }
 
+    /** Both images are of nets that have nothing in common, not even how many crossings there are. */
+    @Sentence(of = 18, says = "It is as it was when it was kept: 1.")
+    static void imagesOfTwoNets() {
+        RoadTrace x = new RoadTrace();
+        x.image(1);
+        int[][] places = {{50, 40}, {50, 60}, {40, 60}, {40, 40}, {30, 40}};
+        for (int[] place : places) {
+            x.crossing(place[0], place[1]);
+        }
+        x.road(4, 3, 1);
+        x.road(3, 2, 1);
+        x.road(2, 1, 0);
+        x.road(1, 0, 0);
+        x.fix(41, 50);
+        x.fix(45, 59);
+        String one = Seen.all(x);
+        int oneWay = x.way(3, 301);
+        x.image(0);
+        x.restore(1);
+        x.crossing(0, 0);
+        x.crossing(0, 9);
+        x.crossing(9, 9);
+        x.road(1, 0, 0);
+        x.road(1, 2, 1);
+        x.fix(1, 1);
+        String other = Seen.all(x);
+        x.image(1);
+        for (int i = 0; i < 2; i++) {
+            x.restore(0);
+            Check.isTrue("the one net", one.equals(Seen.all(x)));
+            Check.due("a way in it", x.way(3, 301), oneWay);
+            x.restore(1);
+            Check.isTrue("the other net", other.equals(Seen.all(x)));
+            Check.due("a way in it", x.way(9, 109), 18);
+        }
+    }
+
     @Sentence(of = 18, says = "OUTSIDE;")
     static void restoreOutside() {
         RoadTrace x = Nets.oneRoad();

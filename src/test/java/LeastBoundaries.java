@@ -47,6 +47,20 @@ final class LeastBoundaries {
         totals("fifteen gaps and a piece", x, 2, 1, 15, 1, 0);
     }
 
+    @Sentence(of = 0, says = "The first one that is none begins a PIECE.")
+    static void theLastOfAllFixesNearAllRoadsBeginsAPiece() {
+        RoadTrace x = Nets.fullRow();
+        x.rule(0, 8);
+        Nets.manyFixes(x, 15, 60, 60);
+        x.fix(5, 7);
+        Check.due("its piece", x.piece(15), 0);
+        Check.due("its candidates", x.candidate(15, -1, 0), 20);
+        for (int k = 0; k < 20; k++) {
+            Check.due("the cost of candidate " + k, x.candidate(15, k, 2), x.candidate(15, k, 1));
+        }
+        Check.due("the first road that leads there", x.best(15), 405);
+    }
+
     @Sentence(of = 0, says = "Each next one goes on from the one before (GAPS left out):")
     static void gapsAreLeftOutOnTheWay() {
         RoadTrace x = Nets.oneRoad();
@@ -284,7 +298,8 @@ final class LeastBoundaries {
 
     // ---- Terms 3: BEST
 
-    @Sentence(of = 0, says = "BEST: of the last FIX of a PIECE the CANDIDATE of the least COST (of as little the least ROAD),")
+    @Sentence(of = 0, says = "BEST: of the last FIX of a PIECE the CANDIDATE of the least COST (of as little the "
+        + "least ROAD),")
     static void bestOfTheLastFix() {
         RoadTrace x = Nets.sideBySide();
         x.fix(5, 2);
@@ -356,7 +371,8 @@ final class LeastBoundaries {
         totals("all but the gap", x, x.total(0), 2, 1, 3, 4);
     }
 
-    @Sentence(of = 0, says = "or if all CANDIDATES of the last FIX of its PIECE that are not DEAD come by BACK from one CANDIDATE of it.")
+    @Sentence(of = 0, says = "or if all CANDIDATES of the last FIX of its PIECE that are not DEAD come by BACK from "
+        + "one CANDIDATE of it.")
     static void decidedWhereAllComeFromOne() {
         RoadTrace x = joined();
         x.rule(0, 2);
@@ -392,9 +408,15 @@ final class LeastBoundaries {
         Check.due("between gaps", x.decided(1), 5);
         Check.due("behind", x.decided(2), NONE);
         Check.due("how many", x.total(3), 1);
+        x.drop();
+        x.drop();
+        x.fix(50, 50);
+        Check.due("a gap in the stead of one that was decided", x.decided(1), NONE);
+        Check.due("how many then", x.total(3), 0);
     }
 
-    @Sentence(of = 0, says = "or if all CANDIDATES of the last FIX of its PIECE that are not DEAD come by BACK from one CANDIDATE of it.")
+    @Sentence(of = 0, says = "or if all CANDIDATES of the last FIX of its PIECE that are not DEAD come by BACK from "
+        + "one CANDIDATE of it.")
     static void whatIsDecidedStays() {
         RoadTrace x = Nets.sideBySide();
         x.fix(5, 2);

@@ -441,7 +441,8 @@ final class NetBoundaries {
         Check.due("no 21st is near", x.way(2000, 2000), UNKNOWN);
     }
 
-    @Sentence(of = 3, says = "UNKNOWN: both; OUTSIDE: WAY 0, 1; STATE: there are FIXES; NO: they are one, are not in one row, "
+    @Sentence(of = 3, says = "UNKNOWN: both; OUTSIDE: WAY 0, 1; STATE: there are FIXES; NO: they are one, are not "
+        + "in one row, "
         + "or have a ROAD; FULL; in this order.")
     static void theOrderOfRoad() {
         RoadTrace x = Nets.fullGrid();

@@ -11,8 +11,10 @@ final class TermsBoundaries {
     private TermsBoundaries() {
     }
 
-    @Sentence(of = 0, says = "Calls that are refused answer, the first of these that fits: UNKNOWN -1 (there is no such "
-        + "CROSSING, ROAD, FIX), OUTSIDE -2 (another number is not as told), NO -5 (as told), STATE -3 (as told), FULL -4.")
+    @Sentence(of = 0, says = "Calls that are refused answer, the first of these that fits: UNKNOWN -1 (there is no "
+        + "such "
+        + "CROSSING, ROAD, FIX), OUTSIDE -2 (another number is not as told), NO -5 (as told), STATE -3 (as told), "
+        + "FULL -4.")
     static void theNumbersOfRefusals() {
         RoadTrace x = Nets.fullGrid();
         Check.due("UNKNOWN crossing", x.between(12, 0), -1);

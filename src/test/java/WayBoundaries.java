@@ -168,7 +168,8 @@ final class WayBoundaries {
         through("one shorter from last to first", x, 0, 1);
     }
 
-    @Sentence(of = 0, says = "from LAST to FIRST, from LAST to LAST (by which it leaves the one, by which it comes to the other one).")
+    @Sentence(of = 0, says = "from LAST to FIRST, from LAST to LAST (by which it leaves the one, by which it comes "
+        + "to the other one).")
     static void lastToFirstBeforeLastToLast() {
         RoadTrace x = spur(true);
         x.fix(10, 5);
@@ -278,6 +279,11 @@ final class WayBoundaries {
         x.fix(1, 0);
         Check.due("all round but one", x.step(1), 35);
         through("all twelve", x, 1, 2, 3, 4, 5, 6, 7, 8, 9, 10, 11, 0);
+        x.drop();
+        x.drop();
+        x.fix(9, 5);
+        x.fix(9, 4);
+        through("all twelve from another one", x, 5, 6, 7, 8, 9, 10, 11, 0, 1, 2, 3, 4);
     }
 
     // ---- 6 between
