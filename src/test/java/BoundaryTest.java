@@ -13,12 +13,13 @@ import java.util.regex.Pattern;
  * the document has words for which there is no test.
  */
 public final class BoundaryTest {
-    private static final Class<?>[] TESTS = {TermsBoundaries.class, NetBoundaries.class, WayBoundaries.class,
-        FixBoundaries.class, LeastBoundaries.class, KeptBoundaries.class};
+    private static final Class<?>[] TESTS = {WholeBoundaries.class, TermsBoundaries.class, NetBoundaries.class,
+        WayBoundaries.class, FixBoundaries.class, LeastBoundaries.class, KeptBoundaries.class};
     private static final int PROMISES = 19;
+    private static final int SECTIONS = 22;
 
-    private final String[] sections = new String[PROMISES + 1];
-    private final boolean[][] tested = new boolean[PROMISES + 1][];
+    private final String[] sections = new String[SECTIONS];
+    private final boolean[][] tested = new boolean[SECTIONS][];
 
     public static void main(String[] args) throws IOException, ReflectiveOperationException {
         BoundaryTest all = new BoundaryTest(Files.readString(Path.of("../shared/DOC.md")));
@@ -30,13 +31,15 @@ public final class BoundaryTest {
     }
 
     private BoundaryTest(String document) {
-        sections[0] = folded(partOf(document, "## Terms\n", "\nAhead of the calls").replaceAll("(?m)^```.*$", "")
-            .replaceAll("={8} \\d ", ""));
+        sections[Sentence.TERMS] = unfenced(partOf(document, "## Terms\n", "\nAhead of the calls"))
+            .replaceAll("={8} \\d ", "");
+        sections[Sentence.WHAT_IT_IS] = folded(partOf(document, "## What it is\n", "\n## "));
+        sections[Sentence.FACE] = unfenced(partOf(document, "## The public face\n", "\n## "));
         for (int i = 1; i <= PROMISES; i++) {
             String part = partOf(document, "## Promise " + i + ":", "\n## ");
             sections[i] = folded(part.substring(part.indexOf("`: ") + 3));
         }
-        for (int i = 0; i <= PROMISES; i++) {
+        for (int i = 0; i < SECTIONS; i++) {
             tested[i] = new boolean[sections[i].length()];
         }
     }
@@ -48,6 +51,11 @@ public final class BoundaryTest {
             throw new IllegalStateException("the document has no part '" + from.trim() + "'");
         }
         return text.substring(begin + from.length(), end);
+    }
+
+    /** Without the lines that begin and end a block of text or code. */
+    private static String unfenced(String text) {
+        return folded(text.replaceAll("(?m)^```.*$", ""));
     }
 
     private static String folded(String text) {
@@ -85,7 +93,7 @@ public final class BoundaryTest {
     private void everyWordIsTested() {
         Check.within("everyWordIsTested");
         Pattern word = Pattern.compile("[A-Za-z0-9]+");
-        for (int i = 0; i <= PROMISES; i++) {
+        for (int i = 0; i < SECTIONS; i++) {
             StringBuilder missing = new StringBuilder();
             Matcher words = word.matcher(sections[i]);
             while (words.find()) {

@@ -368,6 +368,9 @@ final class FixBoundaries {
             Check.due("what " + n + ", though there is no such one", x.candidate(0, 7, n), OUTSIDE);
             Check.due("what " + n + ", of a gap", x.candidate(1, 0, n), OUTSIDE);
             Check.due("what " + n + ", how many", x.candidate(0, -1, n), OUTSIDE);
+            Check.due("what " + n + ", how many of a gap", x.candidate(1, -1, n), OUTSIDE);
+            Check.due("what " + n + ", k -2", x.candidate(0, -2, n), OUTSIDE);
+            Check.due("what " + n + ", k far off", x.candidate(0, Integer.MIN_VALUE, n), OUTSIDE);
         }
     }
 }

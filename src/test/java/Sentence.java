@@ -7,7 +7,11 @@ import java.lang.annotation.Target;
 @Retention(RetentionPolicy.RUNTIME)
 @Target(ElementType.METHOD)
 @interface Sentence {
-    /** The number of the promise; 0 for the section 'Terms'. */
+    int TERMS = 0;
+    int WHAT_IT_IS = 20;
+    int FACE = 21;
+
+    /** The number of the promise, or one of the above for a section that is none. */
     int of();
 
     /** The words, as they stand in that section. */

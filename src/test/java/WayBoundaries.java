@@ -270,6 +270,27 @@ final class WayBoundaries {
         through("over 4 alone", x, 1, 4);
     }
 
+    /** From 1 a road leads past the goal to 0, which is lesser and nearer to the goal, but on no least way. */
+    @Sentence(of = 0, says = "if it is on a least way.")
+    static void notToANearerOneOnNoLeastWay() {
+        RoadTrace x = new RoadTrace();
+        int[][] places = {{40, 10}, {10, 10}, {20, 10}, {30, 10}, {10, 20}, {30, 20}};
+        for (int[] place : places) {
+            x.crossing(place[0], place[1]);
+        }
+        x.road(1, 2, 0);
+        x.road(2, 3, 0);
+        x.road(1, 0, 0);
+        x.road(0, 3, 0);
+        x.road(1, 4, 0);
+        x.road(3, 5, 0);
+        x.rule(0, 0);
+        x.fix(10, 15);
+        x.fix(30, 15);
+        Check.due("its length", x.step(1), 30);
+        through("not past the goal and back", x, 1, 2, 3);
+    }
+
     /** As many crossings on one way as there are. */
     @Sentence(of = 0, says = "Between CROSSINGS: on from each")
     static void onOverAllCrossings() {
