@@ -11,6 +11,8 @@ public final class ModelTest {
     private final StringBuilder before = new StringBuilder();
     private final int run;
     private int calls = 0;
+    private int[] columns;
+    private int[] rows;
     private int x;
     private int y;
 
@@ -48,23 +50,39 @@ public final class ModelTest {
         }
     }
 
-    /** Crossings on a coarse grid, so that many lie in one row and least ways are often equally long. */
+    /**
+     * Crossings on few rows and columns, so that many lie in one row: evenly apart, where least ways are often equally
+     * long, or unevenly, where a crossing may be nearer to the goal and yet on no least way.
+     */
     private void makeNet() {
-        int grid = 3 + chance.nextInt(8);
         int wide = 2 + chance.nextInt(4);
+        boolean even = chance.nextInt(3) > 0;
+        columns = places(wide, even);
+        rows = even ? columns : places(wide, false);
         int oneWays = chance.nextInt(101);
         for (int i = 0; i < 14; i++) {
-            int cx = Math.min(63, grid * chance.nextInt(wide));
-            int cy = Math.min(63, grid * chance.nextInt(wide));
-            ask("crossing", cx, cy, 0);
+            ask("crossing", columns[chance.nextInt(wide)], rows[chance.nextInt(wide)], 0);
         }
         int tries = 20 + chance.nextInt(60);
         for (int i = 0; i < tries; i++) {
             ask("road", chance.nextInt(12), chance.nextInt(12), chance.nextInt(100) < oneWays ? 1 : 0);
         }
         makeRules();
-        x = grid * chance.nextInt(wide);
-        y = grid * chance.nextInt(wide);
+        goAnywhere();
+    }
+
+    private void goAnywhere() {
+        x = columns[chance.nextInt(columns.length)];
+        y = rows[chance.nextInt(rows.length)];
+    }
+
+    private int[] places(int count, boolean even) {
+        int[] places = new int[count];
+        int apart = 3 + chance.nextInt(8);
+        for (int i = 0; i < count; i++) {
+            places[i] = even ? apart * i : chance.nextInt(30);
+        }
+        return places;
     }
 
     private void makeRules() {
@@ -74,7 +92,11 @@ public final class ModelTest {
         ask("rule", 3, chance.nextInt(3) == 0 ? chance.nextInt(8) : chance.nextInt(100), 0);
     }
 
+    /** Mostly a little on, at times somewhere else in the net, so that the way is long. */
     private void nextFix() {
+        if (chance.nextInt(4) == 0) {
+            goAnywhere();
+        }
         x = Math.max(0, Math.min(63, x + chance.nextInt(11) - 5));
         y = Math.max(0, Math.min(63, y + chance.nextInt(11) - 5));
         if (chance.nextInt(25) == 0) {
